@@ -346,11 +346,11 @@ public final class CrosswordBoard {
     private static int lengthOf(int code) {
         int length = 0;
         int rest = code;
-        while (length <= LONGEST_WORD && rest > 0 && rest % BASE != 0) {
+        while (length < LONGEST_WORD && rest > 0 && rest % BASE != 0) {
             rest /= BASE;
             length++;
         }
-        return rest == 0 && length >= SHORTEST_WORD && length <= LONGEST_WORD ? length : 0;
+        return rest == 0 && length >= SHORTEST_WORD ? length : 0;
     }
 
     private static int valueOf(int letter) {

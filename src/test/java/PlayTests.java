@@ -110,9 +110,18 @@ final class PlayTests {
         Check.due("6: at the corner only", 6, board.reason(Check.code("aa"), 51, true));
         Check.due("7: ee is no word", 7, board.reason(Check.code("ae"), 49, false));
         Check.due("8: no f", 8, board.reason(Check.code("af"), 40, true));
+        Check.due("8: no e, the first letter", 8, board.reason(Check.code("ea"), 31, true));
         Check.due("0: c down", 0, board.reason(Check.code("ac"), 40, true));
         Check.due("0: g and d round ae", 0, board.reason(Check.code("gaed"), 39, false));
         Check.due("nothing is changed", before, Check.state(board));
+        // By a swap the rack 0 becomes bcdeee.
+        CrosswordBoard rack = Check.withWords("bb", "be", "ab", "ee");
+        rack.swap();
+        rack.pass();
+        Check.due("8: one b for two", 8, rack.reason(Check.code("bb"), 40, false));
+        Check.due("8: no a", 8, rack.reason(Check.code("ab"), 40, false));
+        Check.due("0: one b", 0, rack.reason(Check.code("be"), 40, false));
+        Check.due("0: two of three e", 0, rack.reason(Check.code("ee"), 40, false));
     }
 
     private static void promise23OrderOfReasons() {
@@ -166,6 +175,22 @@ final class PlayTests {
         Check.due("b on (0,4)", 15, board.worth(Check.code("beach"), 4, true));
         Check.due("h on (8,4)", 19, board.worth(Check.code("beach"), 40, true));
         Check.due("the center is plain", 3, board.worth(Check.code("ab"), 40, true));
+        CrosswordBoard above = Check.withWords("aaefh", "ha", "ah");
+        Check.down(above, "aaefh", 4);
+        Check.due("h on (1,3)", 13, above.worth(Check.code("ha"), 12, false));
+        Check.due("h on (1,5)", 13, above.worth(Check.code("ah"), 13, false));
+        CrosswordBoard below = Check.withWords("aaefh", "hf", "fh");
+        Check.down(below, "aaefh", 40);
+        Check.due("h on (7,3)", 16, below.worth(Check.code("hf"), 66, false));
+        Check.due("h on (7,5)", 16, below.worth(Check.code("fh"), 67, false));
+        CrosswordBoard left = Check.withWords("aaefh", "ha", "ah");
+        Check.across(left, "aaefh", 36);
+        Check.due("h on (3,1)", 13, left.worth(Check.code("ha"), 28, true));
+        Check.due("h on (5,1)", 13, left.worth(Check.code("ah"), 37, true));
+        CrosswordBoard right = Check.withWords("aaefh", "hf", "fh");
+        Check.across(right, "aaefh", 40);
+        Check.due("h on (3,7)", 16, right.worth(Check.code("hf"), 34, true));
+        Check.due("h on (5,7)", 16, right.worth(Check.code("fh"), 43, true));
     }
 
     private static void promise24WordSquares() {

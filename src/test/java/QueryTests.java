@@ -13,6 +13,7 @@ final class QueryTests {
         promise18FullRow();
         promise19Anchor();
         promise22Count();
+        edgesOfTheBoard();
         queriesChangeNothing();
     }
 
@@ -177,6 +178,40 @@ final class QueryTests {
         for (int what = 0; what < due.length; what++) {
             Check.due("count " + what, due[what], board.count(what));
         }
+    }
+
+    /** Promises 16 to 19, 22 and 24 in the first row and in the first column. */
+    private static void edgesOfTheBoard() {
+        Check.topic("first row");
+        CrosswordBoard row = Check.withWords("aaefh", "ha", "ab", "gcdaa");
+        Check.due("aaefh, a on (0,4)", 13, Check.down(row, "aaefh", 4));
+        Check.due("run", Check.code("aaefh"), row.run(4, true));
+        Check.due("runs", 1, row.count(4));
+        Check.due("anchor before", 1, row.anchor(3));
+        Check.due("anchor behind", 1, row.anchor(5));
+        Check.due("anchors", 11, row.count(3));
+        Check.due("h before a", 128, row.crossCheck(3, true));
+        Check.due("b behind a", 2, row.crossCheck(5, true));
+        Check.due("alone in the column", 255, row.crossCheck(3, false));
+        Check.due("gcdaa, g on (0,0)", 20, Check.across(row, "gcdaa", 0));
+        Check.due("run", Check.code("gcdaa"), row.run(0, false));
+        Check.due("runs", 2, row.count(4));
+        Check.due("tile 0", 7, row.tile(0));
+        Check.due("tiles", 9, row.count(1));
+        Check.due("below the corner", 1, row.anchor(9));
+        Check.topic("first column");
+        CrosswordBoard column = Check.withWords("aaefh", "ha", "ab", "gcdaa");
+        Check.due("aaefh, a on (4,0)", 13, Check.across(column, "aaefh", 36));
+        Check.due("run", Check.code("aaefh"), column.run(36, false));
+        Check.due("h above a", 128, column.crossCheck(27, false));
+        Check.due("b below a", 2, column.crossCheck(45, false));
+        Check.due("(3,8) is not before (4,0)", 0, column.anchor(35));
+        Check.due("gcdaa, g on (0,0)", 20, Check.down(column, "gcdaa", 0));
+        Check.due("run", Check.code("gcdaa"), column.run(0, true));
+        Check.due("runs", 2, column.count(4));
+        Check.due("beside the corner", 1, column.anchor(1));
+        column.dropWord(Check.code("gcdaa"));
+        Check.due("runs that are no word", 1, column.count(5));
     }
 
     private static void queriesChangeNothing() {

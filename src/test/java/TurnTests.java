@@ -1,4 +1,4 @@
-/** Promises 5 (pass), 6 (swap), 20 (tiles), 21 (score) and 27 (average). */
+/** Promises 5 (pass), 6 (swap), 20 (tiles), 21 (score), 27 (average), and 4 with an empty bag. */
 final class TurnTests {
     private TurnTests() {
     }
@@ -7,6 +7,8 @@ final class TurnTests {
         promise5Pass();
         promise6Swap();
         promise6ShortBag();
+        promise6BagOfSix();
+        promise4EmptyBag();
         promise20Tiles();
         promise21Score();
         promise27Average();
@@ -76,27 +78,54 @@ final class TurnTests {
         return new String(got);
     }
 
-    /** Makes the best plays until the bag has fewer tiles than a rack. */
-    static CrosswordBoard nearTheEnd() {
+    /** A board after the first of twelve plays, which leave 2 tiles in the bag. */
+    private static CrosswordBoard afterPlays(int number) {
         CrosswordBoard board = Check.withWords("aa", "ae", "ea", "ee", "ab", "ha", "he", "ad", "de",
-            "be", "ca", "ed", "af", "ga", "eg", "deed", "head", "cage", "face", "beef");
-        for (int move = 0; move < 40 && board.count(2) >= 6; move++) {
-            int word = board.best(3);
-            if (word < 0) {
-                board.swap();
-            } else {
-                board.play(board.word(word), board.best(1), board.best(2) == 1);
-            }
+            "be", "ca", "ed", "af", "ga", "eg", "deed", "head", "cage", "beef");
+        String[] words = {"ha", "ha", "ha", "cage", "be", "ed", "be", "deed", "af", "ab", "af", "eg"};
+        int[] squares = {31, 23, 15, 39, 7, 56, 7, 65, 59, 51, 43, 67};
+        String directions = "vvvvvv>>>>>v";
+        for (int i = 0; i < number; i++) {
+            int score = board.play(Check.code(words[i]), squares[i], directions.charAt(i) == 'v');
+            Check.isTrue("the play " + i + " is made", score > 0);
         }
         return board;
     }
 
     private static void promise6ShortBag() {
-        CrosswordBoard board = nearTheEnd();
-        Check.isTrue("the bag is short", board.count(2) < 6);
+        CrosswordBoard board = afterPlays(10);
+        Check.due("tiles in the bag", 5, board.count(2));
         String before = Check.everything(board);
         Check.due("swap", CrosswordBoard.NOT_POSSIBLE, board.swap());
         Check.due("nothing is changed", before, Check.everything(board));
+    }
+
+    private static void promise6BagOfSix() {
+        CrosswordBoard board = afterPlays(9);
+        Check.due("ed, d on (8,4)", 7, Check.down(board, "ed", 67));
+        Check.due("tiles in the bag", 6, board.count(2));
+        String rack = Check.tiles(board, 0);
+        String bag = Check.tiles(board, 2);
+        Check.due("swap of all there are", 6, board.swap());
+        Check.due("rack", bag, Check.tiles(board, 0));
+        Check.due("bag", rack, Check.tiles(board, 2));
+    }
+
+    private static void promise4EmptyBag() {
+        Check.topic("promise 4");
+        CrosswordBoard board = afterPlays(12);
+        Check.due("rack 0", "bccdee", Check.tiles(board, 0));
+        Check.due("bag", "cg", Check.tiles(board, 2));
+        board.addWord(Check.code("edb"));
+        board.play(Check.code("edb"), 72, false);
+        Check.due("rack 0 has given three tiles and drawn two", "ccceg", Check.tiles(board, 0));
+        Check.due("bag", "", Check.tiles(board, 2));
+        Check.topic("promise 6");
+        Check.due("swap of 6 tiles", CrosswordBoard.NOT_POSSIBLE, board.swap());
+        board.pass();
+        Check.due("swap of 5 tiles", CrosswordBoard.NOT_POSSIBLE, board.swap());
+        Check.due("turn", 0, board.count(6));
+        Check.due("swaps", 0, board.count(9));
     }
 
     private static void promise20Tiles() {

@@ -12,6 +12,14 @@ public final class AllTests {
         HistoryTests.run();
         QueryTests.run();
         SearchTests.run();
+        LetterEdges.run();
+        BoardEdges.run();
+        BagEdges.run();
+        PlayEdges.run();
+        TextEdges.run();
+        HistoryEdges.run();
+        RefusalEdges.run();
+        SearchEdges.run();
         ModelTests.run();
         if (arguments.length > 0) {
             LanguageTests.run(arguments[0]);

@@ -1,3 +1,4 @@
+import java.util.List;
 import java.util.Random;
 import java.util.TreeMap;
 
@@ -16,6 +17,8 @@ final class ModelTests {
     private final StringBuilder log = new StringBuilder();
     private final TreeMap<String, Integer> seen;
     private final String letters;
+    /** Whether the tiles are to be played fast, so that the racks become empty. */
+    private final boolean isFast;
     private int calls;
     private boolean wrong;
 
@@ -24,11 +27,12 @@ final class ModelTests {
         this.seen = seen;
         String[] mixes = {"abcdefgh", "ae", "aeh", "aaaaeeeehhbcd", "aaeebcdfgh"};
         letters = mixes[random.nextInt(mixes.length)];
+        isFast = seed % 3 == 0;
     }
 
     static void run() {
         Check.topic("random runs");
-        int runs = Integer.getInteger("runs", 150);
+        int runs = Integer.getInteger("runs", 200);
         TreeMap<String, Integer> seen = new TreeMap<>();
         for (int seed = 0; seed < runs; seed++) {
             new ModelTests(seed, seen).oneRun(seed);
@@ -40,7 +44,8 @@ final class ModelTests {
                 seen.containsKey("stopped " + (-10 - reason)));
         }
         String[] rare = {"addWord -3", "addWord -4", "append -3", "dropWord -1", "swap -4",
-            "restore -4", "undo -5", "bag 0", "fault 80", "letters 7", "cross 0"};
+            "restore -4", "undo -5", "bag 0", "fault 80", "letters 7", "cross 0", "swap 0", "swap 6",
+            "board 38"};
         for (String event : rare) {
             Check.isTrue("there was " + event, seen.containsKey(event));
         }
@@ -71,6 +76,10 @@ final class ModelTests {
     }
 
     private void step() {
+        if (isFast && random.nextInt(4) > 0) {
+            rackPlay();
+            return;
+        }
         switch (random.nextInt(16)) {
             case 0: addWord(anyCode()); break;
             case 1: addWord(Check.code(fittingWord())); break;
@@ -150,6 +159,7 @@ final class ModelTests {
         if (got >= 0) {
             seen.merge("letters " + SlowModel.wordOf(code).length(), 1, Integer::sum);
             seen.merge("bag " + model.count(2), 1, Integer::sum);
+            seen.merge("board " + model.count(1), 1, Integer::sum);
         }
     }
 
@@ -192,6 +202,33 @@ final class ModelTests {
         }
     }
 
+    /** A play with many tiles of the rack, for which the words that it needs are put in the list. */
+    private void rackPlay() {
+        for (int tries = 0; tries < 200; tries++) {
+            int square = random.nextInt(81);
+            boolean isDown = random.nextBoolean();
+            List<String> needed = model.fittingPlay(square, isDown, 7 - random.nextInt(6), random);
+            if (needed != null) {
+                listAll(needed);
+                play(Check.code(needed.get(0)), square, isDown);
+                return;
+            }
+        }
+        turn();
+    }
+
+    private void listAll(List<String> needed) {
+        for (String word : needed) {
+            for (int i = 0; model.words().size() == 20 && i < 20; i++) {
+                String old = model.words().get(i);
+                if (!needed.contains(old)) {
+                    dropWord(Check.code(old));
+                }
+            }
+            addWord(Check.code(word));
+        }
+    }
+
     private void turn() {
         if (random.nextBoolean()) {
             same("pass()", "pass", board.pass(), model.pass());
@@ -207,6 +244,15 @@ final class ModelTests {
             return (kind == 0 ? "+" : "-") + word;
         }
         int square = random.nextInt(81);
+        if (random.nextInt(5) == 0) {
+            for (int tries = 0; tries < 40; tries++) {
+                square = random.nextInt(81);
+                int run = model.run(square, false);
+                if (run > 0) {
+                    return SlowModel.wordOf(run) + (square / 9 + 1) + (square % 9 + 1) + ">";
+                }
+            }
+        }
         for (int tries = 0; tries < 8 && model.anchor(square) != 1; tries++) {
             square = random.nextInt(81);
         }

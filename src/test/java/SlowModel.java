@@ -3,6 +3,7 @@ import java.util.ArrayList;
 import java.util.Arrays;
 import java.util.Deque;
 import java.util.List;
+import java.util.Random;
 import java.util.regex.Matcher;
 import java.util.regex.Pattern;
 
@@ -588,5 +589,47 @@ final class SlowModel {
     /** The words, for the makers of random calls. */
     List<String> words() {
         return now.words;
+    }
+
+    /**
+     * The word of a play of random letters of the rack, and the words that its crossings need; null
+     * if no word fits there.
+     */
+    List<String> fittingPlay(int square, boolean isDown, int length, Random random) {
+        StringBuilder rack = new StringBuilder(now.holders[now.turn]);
+        StringBuilder word = new StringBuilder();
+        List<String> needed = new ArrayList<>();
+        int anchors = 0;
+        for (int i = 0; i < length; i++) {
+            int row = square / 9 + (isDown ? i : 0);
+            int column = square % 9 + (isDown ? 0 : i);
+            char letter = at(row, column);
+            if (row > 8 || column > 8 || letter == ' ' && rack.length() == 0) {
+                return null;
+            }
+            if (letter == ' ') {
+                int index = random.nextInt(rack.length());
+                letter = rack.charAt(index);
+                rack.deleteCharAt(index);
+                anchors += anchor(9 * row + column);
+                String run = runWith(9 * row + column, !isDown, letter);
+                if (!run.isEmpty()) {
+                    needed.add(run);
+                }
+            }
+            word.append(letter);
+        }
+        needed.add(0, word.toString());
+        boolean isTooLong = needed.stream().anyMatch(run -> run.length() > 7);
+        boolean isPart = anchors > 0 && !runOver(word.toString(), square, isDown).contentEquals(word);
+        return anchors == 0 || isTooLong || isPart ? null : needed;
+    }
+
+    /** The run of which a word would be a part, if it were put on the board. */
+    private String runOver(String word, int square, boolean isDown) {
+        int first = isDown ? square / 9 : square % 9;
+        StringBuilder line = new StringBuilder(line(square, isDown));
+        line.replace(first, first + word.length(), word);
+        return piece(line.toString(), first);
     }
 }

@@ -31,7 +31,7 @@ final class BagEdges {
         averageIsNoWholeNumber();
     }
 
-    /** "Altogether there are 38 tiles: 8 with a, 4 each with b, c, d and h, 8 with e, 3 each with f and g." */
+    /** "Altogether there are 38 tiles: 8 with a, 4 each with b, c, d and h, 8 with e, 3 each ..." */
     private static void tilesAreNeverLost() {
         for (int plays = 0; plays <= 6; plays++) {
             CrosswordBoard board = FreeGame.ofSixes(plays).board;
@@ -137,7 +137,7 @@ final class BagEdges {
         sameTiles(game);
     }
 
-    /** "The rack ... has fewer tiles of some letter than the play has new tiles of it": an empty one for each. */
+    /** "The rack ... has fewer tiles of some letter than the play has new tiles of it": an empty one. */
     private static void emptyRack() {
         FreeGame game = FreeGame.ofSixes(6);
         game.pass();

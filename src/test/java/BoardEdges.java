@@ -82,7 +82,7 @@ final class BoardEdges {
         return board;
     }
 
-    /** "The square in row r and column c has the number 9 * r + c": the first, the last, and the other corners. */
+    /** "The square in row r and column c has the number 9 * r + c": the first, the last, the corners. */
     private static void tilesInTheCorners() {
         for (int corner : new int[] {0, 8, 72, 80}) {
             CrosswordBoard board = withCorner(corner);

@@ -199,7 +199,7 @@ final class HistoryEdges {
         Check.due("words", 0, board.count(0));
     }
 
-    /** "Each action that returns no error code records": a refused one keeps all five states, the oldest too. */
+    /** "Each action that returns no error code records": a refused one keeps all five states. */
     private static void refusedWithAFullHistory() {
         String[] names = {"addWord of no code", "addWord of a word again", "dropWord of no code",
             "dropWord of no word of the list", "play of no code", "play on no square", "play",
@@ -232,7 +232,7 @@ final class HistoryEdges {
         }
     }
 
-    /** "The state consists of the list of words, the board, the racks, the bag, x, the turn, the scores and ..." */
+    /** "The state consists of the list of words, the board, the racks, the bag, x, the turn, ..." */
     private static void wholeStateComesBack() {
         CrosswordBoard board = Check.withWords("ae", "ac", "hac");
         Check.across(board, "ae", 40);

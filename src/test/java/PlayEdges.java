@@ -356,7 +356,7 @@ final class PlayEdges {
 
     // ---- the scores
 
-    /** "this sum counts 2 times for each word square that gets a new tile (so 4 times for two of them ...)" */
+    /** "this sum counts 2 times for each word square that gets a new tile (so 4 times for two ...)" */
     private static void newTilesOnBonusSquares() {
         CrosswordBoard board = Check.withWords("aaef", "bcdafgh", "bcda", "afgh", "cdafg");
         Check.down(board, "aaef", 13);
@@ -418,11 +418,16 @@ final class PlayEdges {
         Check.down(board, "ac", 40);
         Check.due("an old tile's crossing run counts no more", 4,
             board.worth(Check.code("aed"), 40, false));
-        // h, g and e over "ac" in the column 4 belong to the down run alone.
+        // The letters over "ac" in the column 4 belong to no run across.
         Check.due("one long crossing", 4 + 1 + 3, board.worth(Check.code("hac"), 31, true));
         board.addWord(Check.code("hh"));
         Check.due("h over ac: 4 * 2 with h on (3,3), and hac", (4 + 4) * 2 + 8,
             board.worth(Check.code("hh"), 30, false));
+        CrosswordBoard letters = Check.withWords("aaefhh", "ga", "gf", "ah");
+        Check.across(letters, "aaefhh", 39);
+        // a on the letter square (3,7) counts three times in "ga" and in "ah", the old h once.
+        Check.due("a crossing on a letter square", 3 + 3 + 3 + 4 + 3 + 4,
+            letters.worth(Check.code("ga"), 33, false));
     }
 
     /** "its new tiles go from the rack to the board, its score is added": worth tells it before. */

@@ -237,7 +237,7 @@ final class TextEdges {
         Check.due("stopped", CrosswordBoard.NOT_POSSIBLE, board.stopped());
     }
 
-    /** "up to the first one for which this method would return an error code": that one and the rest are not. */
+    /** "up to the first one for which this method would return an error code": the rest is left. */
     private static void performStopsWhereAnErrorIs() {
         String[] orders = {"+aa", "+ab", "+ac", "+ad"};
         for (int wrong = 0; wrong < 4; wrong++) {

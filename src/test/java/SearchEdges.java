@@ -9,6 +9,7 @@ final class SearchEdges {
         wordsThatCannotBePlayed();
         eachPlayCountsOnce();
         firstAndLastSquares();
+        squaresOfTheBoardAlone();
         greatestScoreBeforeLeastSquare();
         leastSquareBeforeAllElse();
         acrossBeforeLeastNumber();
@@ -104,6 +105,28 @@ final class SearchEdges {
         Check.due("b before the last square", 3, last.worth(Check.code("ba"), 79, false));
         // b on the word square (3,3).
         best(last, 6, 30, 1, 0);
+    }
+
+    /** Just the plays on squares of the board that have no reason: none in a row below the row 8. */
+    private static void squaresOfTheBoardAlone() {
+        CrosswordBoard board = Check.withWords("haaefh", "hcdga");
+        Check.across(board, "haaefh", 36);
+        Check.isTrue("hcdga down to (8,0)", Check.down(board, "hcdga", 36) > 0);
+        board.dropWord(Check.code("haaefh"));
+        board.dropWord(Check.code("hcdga"));
+        // If there were a row 9, the two letters could be put there, below "hcdga".
+        String two = Check.tiles(board, 0).substring(0, 2);
+        String[] words = {two, "hcdga" + two.charAt(0)};
+        board.addWord(Check.code(words[0]));
+        board.addWord(Check.code(words[1]));
+        int plays = 0;
+        for (String word : words) {
+            for (int square = 0; square <= 80; square++) {
+                plays += board.reason(Check.code(word), square, false) == 0 ? 1 : 0;
+                plays += board.reason(Check.code(word), square, true) == 0 ? 1 : 0;
+            }
+        }
+        Check.due("plays", plays, board.plays());
     }
 
     /** "of the plays that are not refused the one with the greatest score": wherever it is. */

@@ -37,6 +37,7 @@ final class PlayEdges {
         oldTilesOnBonusSquares();
         bonusForSix();
         crossingRuns();
+        crossingRunsEndAtAGap();
         madeAsItIsWorth();
     }
 
@@ -428,6 +429,27 @@ final class PlayEdges {
         // a on the letter square (3,7) counts three times in "ga" and in "ah", the old h once.
         Check.due("a crossing on a letter square", 3 + 3 + 3 + 4 + 3 + 4,
             letters.worth(Check.code("ga"), 33, false));
+    }
+
+    /** A tile behind an empty square belongs to another run, on all four sides. */
+    private static void crossingRunsEndAtAGap() {
+        for (boolean isDown : new boolean[] {false, true}) {
+            int next = isDown ? 9 : 1;
+            int below = isDown ? 1 : 9;
+            CrosswordBoard board = Check.withWords("ae", "ha", "aha", "ah");
+            board.play(Check.code("ae"), 40, isDown);
+            Check.due("ha", 5, board.play(Check.code("ha"), 40 - below, !isDown));
+            // a before "ha" makes "aha"; h beside it has one empty square and then the e.
+            Check.due("aha alone crosses", 1 + 4 + 1 + 4 + 1,
+                board.worth(Check.code("ah"), 40 - 2 * below, isDown));
+            board = Check.withWords("ae", "ac", "ach", "hh");
+            board.play(Check.code("ae"), 40, isDown);
+            Check.due("ac", 4, board.play(Check.code("ac"), 40, !isDown));
+            Check.due("the e", 5, board.tile(40 + next));
+            // h behind "ac" makes "ach"; the other h has one empty square and then the e.
+            Check.due("ach alone crosses", 4 + 4 + 1 + 3 + 4,
+                board.worth(Check.code("hh"), 40 + 2 * below, isDown));
+        }
     }
 
     /** "its new tiles go from the rack to the board, its score is added": worth tells it before. */

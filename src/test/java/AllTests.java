@@ -1,4 +1,7 @@
-/** Runs all tests of the project; ends with exit code 1 if one fails. */
+/**
+ * Runs all tests of the project; ends with exit code 1 if one fails. The arguments are the paths of
+ * CrosswordBoard.java and README.md, at whose texts two of the tests look.
+ */
 public final class AllTests {
     private AllTests() {
     }
@@ -23,6 +26,9 @@ public final class AllTests {
         ModelTests.run();
         if (arguments.length > 0) {
             LanguageTests.run(arguments[0]);
+        }
+        if (arguments.length > 1) {
+            ReadmeTests.run(arguments[1]);
         }
         System.out.println(Check.checks() + " checks, " + Check.wrong() + " wrong");
         if (Check.wrong() > 0) {
